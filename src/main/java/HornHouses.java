@@ -31,10 +31,8 @@ public final class HornHouses {
     private static final int ACTS = 1;
     private static final int SIGHTS = 2;
 
-    private final byte[] tape = new byte[TAPE_BYTES];
-    private int taped = 0;
+    private final Reader reader = new Reader();
     private int faultPlace = NONE;
-    private final Reader reader = new Reader(tape);
     private Plan plan = new Plan();
     /** A text is read into this one, so that a FAULT leaves the other as it is. */
     private Plan draft = new Plan();
@@ -59,29 +57,21 @@ public final class HornHouses {
     // ---- the text
 
     public int feed(int a, int b, int c, int d, int e) {
-        if (taped + FED_BYTES > TAPE_BYTES) {
+        if (reader.taped() + FED_BYTES > TAPE_BYTES) {
             return NONE;
         }
-        append(a);
-        append(b);
-        append(c);
-        append(d);
-        append(e);
-        return taped;
-    }
-
-    private void append(int number) {
-        for (int shift = 24; shift >= 0 && taped < TAPE_BYTES; shift -= 8) {
-            tape[taped] = (byte) (number >>> shift);
-            taped++;
-        }
+        reader.append(a);
+        reader.append(b);
+        reader.append(c);
+        reader.append(d);
+        reader.append(e);
+        return reader.taped();
     }
 
     public int town(int n) throws IllegalArgumentException {
-        if (n < 0 || n > taped) {
+        if (n < 0 || n > reader.taped()) {
             throw new IllegalArgumentException("the tape has not so many bytes");
         }
-        taped = 0;
         int found = reader.read(n, draft);
         faultPlace = found == 0 ? NONE : reader.place();
         if (found != 0) {
@@ -118,7 +108,7 @@ public final class HornHouses {
             case 9: return needed();
             case 10: return acts.many();
             case 11: return seen.many();
-            case 12: return taped;
+            case 12: return reader.taped();
             case 13: return refused[TEXTS];
             case 14: return refused[ACTS];
             case 15: return refused[SIGHTS];
@@ -375,7 +365,7 @@ public final class HornHouses {
             if (later.isBurst(house)) {
                 return d;
             }
-            pass(later, 1);
+            plan.passAlone(later, house, plan.dampOf(later));
         }
         return NONE;
     }
@@ -1201,7 +1191,7 @@ public final class HornHouses {
         }
     }
 
-    /** Reads a TOWN from the tape; it stops at the first FAULT. */
+    /** The tape, and what reads a TOWN from it; it stops at the first FAULT. */
     static final class Reader {
         private static final int WRONG = 1;
         private static final int TOO_MUCH = 2;
@@ -1226,7 +1216,9 @@ public final class HornHouses {
         private static final int DEEPEST = 5;
         private static final int MOST_NOTS = 6;
 
-        private final byte[] text;
+        private final byte[] tape = new byte[TAPE_BYTES];
+        private int taped = 0;
+        /** So much of the tape is the text. */
         private int length = 0;
         private int fault = 0;
         private int faultAt = NONE;
@@ -1241,8 +1233,15 @@ public final class HornHouses {
         private int coded = 0;
         private boolean knowsTight = false;
 
-        Reader(byte[] text) {
-            this.text = text;
+        int taped() {
+            return taped;
+        }
+
+        void append(int number) {
+            for (int shift = 24; shift >= 0 && taped < TAPE_BYTES; shift -= 8) {
+                tape[taped] = (byte) (number >>> shift);
+                taped++;
+            }
         }
 
         int place() {
@@ -1251,7 +1250,8 @@ public final class HornHouses {
 
         /** The FAULT of the first n bytes, or 0: then the plan tells the TOWN. */
         int read(int n, Plan plan) {
-            length = Math.min(n, text.length);
+            length = Math.min(n, taped);
+            taped = 0;
             fault = 0;
             faultAt = NONE;
             behind = 0;
@@ -1285,7 +1285,7 @@ public final class HornHouses {
             }
             number = behind - at > MOST_DIGITS ? NONE : 0;
             for (int i = at; i < behind && kind == NUMBER && number != NONE; i++) {
-                number = number * 10 + text[i] - '0';
+                number = number * 10 + tape[i] - '0';
             }
         }
 
@@ -1294,7 +1294,7 @@ public final class HornHouses {
             if (i < 0 || i >= length) {
                 return END;
             }
-            int b = text[i];
+            int b = tape[i];
             if (b == 32 || b == 10) {
                 return BLANK;
             }
@@ -1307,13 +1307,13 @@ public final class HornHouses {
         private boolean isWord(String word) {
             boolean like = kind == WORD && behind - at == word.length();
             for (int i = 0; i < word.length() && like; i++) {
-                like = text[at + i] == word.charAt(i);
+                like = tape[at + i] == word.charAt(i);
             }
             return like;
         }
 
         private boolean isSign(char sign) {
-            return kind == SIGN && text[at] == sign;
+            return kind == SIGN && tape[at] == sign;
         }
 
         private void takeSign(char sign) {
