@@ -310,6 +310,11 @@ public final class TextTest {
         due.is("and ahead of or", gives("0 and 0 or 1"), 1);
         due.is("not ahead of and", gives("not 0 and 0"), 0);
         due.is("alone as it is", gives("(((7)))"), 7);
+        String most = "0 or 1 and 0<0+1*";
+        String within = "(" + most;
+        due.is("all open in all", gives(most + within.repeat(5) + "give" + ")".repeat(5)), 1);
+        due.is("all open in all", gives(most + within.repeat(5) + "worn" + ")".repeat(5)), 0);
+        due.is("all open in all", gives("7 or 1 and 0<0+1*" + within.repeat(5) + "0-4" + ")".repeat(5)), 1);
         due.is("all at once", gives("1+(1+(1+(1+(1+(1*1+0<2 and 1 or 0)))))"), 6);
     }
 
