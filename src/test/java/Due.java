@@ -5,17 +5,26 @@ import java.util.NoSuchElementException;
 final class Due {
     private int wrong = 0;
     private int held = 0;
+    private String saying = "";
 
     /** Something that answers a number, or throws. */
     interface Call {
         long answer();
     }
 
+    /**
+     * What is held from here on stands for these words of the document: those of a promise, or (0)
+     * of 'Terms'. SayingsTest looks whether they stand there.
+     */
+    void says(int promise, String words) {
+        saying = (promise == 0 ? "Terms" : "Promise " + promise) + " '" + words + "': ";
+    }
+
     void is(String what, long got, long want) {
         held++;
         if (got != want) {
             wrong++;
-            System.out.println(what + " answered " + got + ", due is " + want);
+            System.out.println(saying + what + " answered " + got + ", due is " + want);
         }
     }
 
@@ -33,7 +42,8 @@ final class Due {
         is(what + " (1 NoSuchElementException, 2 IllegalArgumentException)", thrown(call), 2);
     }
 
-    private static int thrown(Call call) {
+    /** 1 NoSuchElementException, 2 IllegalArgumentException, 0 none. */
+    static int thrown(Call call) {
         try {
             call.answer();
             return 0;

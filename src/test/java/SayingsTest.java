@@ -1,0 +1,97 @@
+import java.io.IOException;
+import java.nio.file.Files;
+import java.nio.file.Path;
+import java.util.ArrayList;
+import java.util.BitSet;
+import java.util.List;
+import java.util.Map;
+import java.util.TreeMap;
+import java.util.regex.Matcher;
+import java.util.regex.Pattern;
+
+/**
+ * Whether the words that the tests say they stand for are the document's, and whether each place of the
+ * document that names a boundary is one that some test stands for. The property "doc" is the document's
+ * path, "tests" that of the tests.
+ */
+public final class SayingsTest {
+    /** How the document tells a boundary. */
+    private static final Pattern BOUNDARY = Pattern.compile("\\d+ to \\d+|at most|of like ones|\\bnone\\b|NONE"
+        + "|NoSuchElementException|IllegalArgumentException|STATUS|not below|cut down|wrap|by 0 gives|if not|, if one LODGES"
+        + "|stays|refused|or more|or less|\\bFAULT\\b");
+    private static final Pattern SAYS =
+        Pattern.compile("due\\.says\\((\\d+),\\s*((?:\"(?:[^\"\\\\]|\\\\.)*\"[\\s+]*)+)\\)");
+    private static final Pattern TEXT = Pattern.compile("\"((?:[^\"\\\\]|\\\\.)*)\"");
+    private static final int PROMISES = 50;
+
+    private static final Due due = new Due();
+
+    public static void main(String[] args) throws IOException {
+        Map<Integer, String> sections = sections(Files.readString(Path.of(System.getProperty("doc"))));
+        Map<Integer, BitSet> covered = new TreeMap<>();
+        for (int n = 0; n <= PROMISES; n++) {
+            due.is("the document has section " + n, sections.containsKey(n), true);
+            covered.put(n, new BitSet());
+        }
+        for (String[] saying : sayings(Path.of(System.getProperty("tests")))) {
+            int n = Integer.parseInt(saying[0]);
+            String section = sections.getOrDefault(n, "");
+            int at = section.indexOf(saying[1]);
+            due.is("section " + n + " says '" + saying[1] + "'", at >= 0, true);
+            for (; at >= 0; at = section.indexOf(saying[1], at + 1)) {
+                covered.get(n).set(at, at + saying[1].length());
+            }
+        }
+        for (int n = 0; n <= PROMISES; n++) {
+            due.is("a test for section " + n, !covered.get(n).isEmpty(), true);
+            boundaries(n, sections.getOrDefault(n, ""), covered.get(n));
+        }
+        due.end("SayingsTest");
+    }
+
+    /** 0 'Terms', n 'Promise n', each without the line of the call itself. */
+    private static Map<Integer, String> sections(String doc) {
+        Map<Integer, String> sections = new TreeMap<>();
+        for (String part : doc.split("\n## ")) {
+            int line = part.indexOf('\n');
+            if (part.startsWith("Terms")) {
+                sections.put(0, part.substring(line + 1));
+            }
+            Matcher head = Pattern.compile("Promise (\\d+):.*").matcher(line < 0 ? part : part.substring(0, line));
+            if (head.matches()) {
+                String body = part.substring(line + 1);
+                // The call's own line, in back quotes, tells the face, which LanguageTest holds.
+                sections.put(Integer.parseInt(head.group(1)), body.substring(body.lastIndexOf("`:") + 2));
+            }
+        }
+        return sections;
+    }
+
+    private static List<String[]> sayings(Path tests) throws IOException {
+        List<String[]> found = new ArrayList<>();
+        List<Path> files = new ArrayList<>();
+        try (var all = Files.list(tests)) {
+            all.filter(p -> p.toString().endsWith("Test.java")).sorted().forEach(files::add);
+        }
+        for (Path file : files) {
+            Matcher says = SAYS.matcher(Files.readString(file));
+            while (says.find()) {
+                StringBuilder words = new StringBuilder();
+                Matcher text = TEXT.matcher(says.group(2));
+                while (text.find()) {
+                    words.append(text.group(1));
+                }
+                found.add(new String[] {says.group(1), words.toString()});
+            }
+        }
+        return found;
+    }
+
+    private static void boundaries(int n, String section, BitSet covered) {
+        Matcher at = BOUNDARY.matcher(section);
+        while (at.find()) {
+            String near = section.substring(Math.max(0, at.start() - 40), Math.min(section.length(), at.end() + 30));
+            due.is("section " + n + ", a test for '.." + near.replace('\n', ' ') + "..'", covered.get(at.start()), true);
+        }
+    }
+}
