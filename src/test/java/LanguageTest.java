@@ -7,6 +7,7 @@ import java.nio.file.Files;
 import java.nio.file.Path;
 import java.util.ArrayList;
 import java.util.Arrays;
+import java.util.Collections;
 import java.util.HashSet;
 import java.util.List;
 import java.util.Set;
@@ -37,6 +38,7 @@ public final class LanguageTest {
 
     public static void main(String[] args) throws IOException {
         face();
+        faceAsTold(Path.of(System.getProperty("doc")));
         members();
         inside();
         text(Files.readAllLines(Path.of(System.getProperty("source"))));
@@ -62,6 +64,34 @@ public final class LanguageTest {
         due.is("one constructor", made.length, 1);
         due.is("public", Modifier.isPublic(made[0].getModifiers()), true);
         due.is("of nothing", made[0].getParameterCount(), 0);
+    }
+
+    /** The document's own lines of the face, with what each call throws, in this order. */
+    private static void faceAsTold(Path doc) throws IOException {
+        if (!Files.isReadable(doc)) {
+            System.out.println("LanguageTest: no document at " + doc + ", its face is not held");
+            return;
+        }
+        Set<String> want = new TreeSet<>();
+        for (String line : Files.readAllLines(doc)) {
+            if (line.matches("    public (int|void|boolean) .*\\(.*;")) {
+                want.add(line.trim().replaceAll("public |;|int (?=[a-z]+[,)])", "").replaceAll("(?<=[(,] ?)[a-z]+", "int"));
+            }
+        }
+        Set<String> got = new TreeSet<>();
+        for (Method m : HornHouses.class.getDeclaredMethods()) {
+            if (Modifier.isPublic(m.getModifiers())) {
+                List<String> thrown = new ArrayList<>();
+                for (Class<?> e : m.getExceptionTypes()) {
+                    thrown.add(e.getSimpleName());
+                }
+                String types = String.join(", ", Collections.nCopies(m.getParameterCount(), "int"));
+                got.add(m.getReturnType() + " " + m.getName() + "(" + types + ")"
+                    + (thrown.isEmpty() ? "" : " throws " + String.join(", ", thrown)));
+            }
+        }
+        due.is("calls of the document's face", want.size(), FACE.length);
+        due.is("the document's face " + want + " against " + got, got.equals(want), true);
     }
 
     private static void members() {

@@ -29,8 +29,8 @@ public final class RoomTest {
     private static void run() {
         HornHouses x = Due.town(FULL);
         int calls = FULL.length() / 20 + 3;
-        for (int i = 0; calls < 512; i++) {
-            calls += 12;
+        for (int i = 0; calls + 13 <= 512; i++) {
+            calls += 13;
             x.letIn();
             x.image();
             x.large(i % 3);

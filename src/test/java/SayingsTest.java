@@ -10,15 +10,14 @@ import java.util.regex.Matcher;
 import java.util.regex.Pattern;
 
 /**
- * Whether the words that the tests say they stand for are the document's, and whether each place of the
- * document that names a boundary is one that some test stands for. The property "doc" is the document's
- * path, "tests" that of the tests.
+ * Whether the words that the tests say they stand for are the document's, and whether each word of its terms and
+ * promises is among those that some test stands for. The property "doc" is the document's path, "tests" that of
+ * the tests.
  */
 public final class SayingsTest {
-    /** How the document tells a boundary. */
-    private static final Pattern BOUNDARY = Pattern.compile("\\d+ to \\d+|at most|of like ones|\\bnone\\b|NONE"
-        + "|NoSuchElementException|IllegalArgumentException|STATUS|not below|cut down|wrap|by 0 gives|if not|, if one LODGES"
-        + "|stays|refused|or more|or less|\\bFAULT\\b");
+    private static final Pattern WORD = Pattern.compile("[A-Za-z0-9]+");
+    /** How the document's parts are set off, which says nothing. */
+    private static final Pattern FRAME = Pattern.compile("==== \\d\\.|```(text)?");
     private static final Pattern SAYS =
         Pattern.compile("due\\.says\\((\\d+),\\s*((?:\"(?:[^\"\\\\]|\\\\.)*\"[\\s+]*)+)\\)");
     private static final Pattern TEXT = Pattern.compile("\"((?:[^\"\\\\]|\\\\.)*)\"");
@@ -49,18 +48,23 @@ public final class SayingsTest {
         }
         for (int n = 0; n <= PROMISES; n++) {
             due.is("a test for section " + n, !covered.get(n).isEmpty(), true);
-            boundaries(n, sections.getOrDefault(n, ""), covered.get(n));
+            words(n, sections.getOrDefault(n, ""), covered.get(n));
         }
         due.end("SayingsTest");
     }
 
-    /** 0 'Terms', n 'Promise n', each without the line of the call itself. */
+    /** 0 how long an object is used, and 'Terms'; n 'Promise n', each without the line of the call itself. */
     private static Map<Integer, String> sections(String doc) {
         Map<Integer, String> sections = new TreeMap<>();
+        String used = "";
         for (String part : doc.split("\n## ")) {
             int line = part.indexOf('\n');
+            if (part.startsWith("What it is")) {
+                // Ahead of it stands what the document is about, which the rest tells.
+                used = part.substring(part.indexOf("An object is used"));
+            }
             if (part.startsWith("Terms")) {
-                sections.put(0, part.substring(line + 1));
+                sections.put(0, used + FRAME.matcher(part.substring(line + 1)).replaceAll(""));
             }
             Matcher head = Pattern.compile("Promise (\\d+):.*").matcher(line < 0 ? part : part.substring(0, line));
             if (head.matches()) {
@@ -92,8 +96,8 @@ public final class SayingsTest {
         return found;
     }
 
-    private static void boundaries(int n, String section, BitSet covered) {
-        Matcher at = BOUNDARY.matcher(section);
+    private static void words(int n, String section, BitSet covered) {
+        Matcher at = WORD.matcher(section);
         while (at.find()) {
             String near = section.substring(Math.max(0, at.start() - 40), Math.min(section.length(), at.end() + 30));
             due.is("section " + n + ", a test for '.." + near.replace('\n', ' ') + "..'", covered.get(at.start()), true);
