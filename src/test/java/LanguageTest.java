@@ -104,6 +104,12 @@ public final class LanguageTest {
             due.is(m.getName() + " is public or private", isPublic || Modifier.isPrivate(m.getModifiers()), true);
             due.is(m.getName() + " bears a public name", !isPublic && open.contains(m.getName()), false);
         }
+        for (Class<?> c : HornHouses.class.getDeclaredClasses()) {
+            for (Method m : c.getDeclaredMethods()) {
+                boolean isPrivate = Modifier.isPrivate(m.getModifiers());
+                due.is(m + " bears a public name", isPrivate && open.contains(m.getName()), false);
+            }
+        }
         for (Field f : HornHouses.class.getDeclaredFields()) {
             boolean isPublic = Modifier.isPublic(f.getModifiers());
             due.is(f.getName() + " is NONE or private",
